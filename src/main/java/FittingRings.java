@@ -1020,7 +1020,8 @@ public final class FittingRings {
         }
 
         private int byColours(int side, int measure, long w) {
-            grouped(side, w);
+            ranking.rank(net, side, w);
+            ranking.group(net, side);
             int together = 0;
             for (int g = 0; g < ranking.groupCount; g++) {
                 together += net.peak(measure, ranking.groups[g]);
@@ -1030,7 +1031,7 @@ public final class FittingRings {
 
         /** By measure 0 this is the depth, and 1: each point comes with those behind it that fit it. */
         private int byCore(int side, int measure, long w) {
-            ranked(side, w);
+            ranking.rank(net, side, w);
             int most = 0;
             long behind = 0;
             for (int place = ranking.length - 1; place >= 0; place--) {
@@ -1275,22 +1276,22 @@ public final class FittingRings {
             pending = 0;
             await(w, 0);
             int made = 0;
-            for (int place = 0; pending > 0; place++) {
-                if (place >= MOST_NODES) {
-                    return MUCH;
-                }
+            while (pending > 0 && made < MOST_NODES) {
                 pending--;
                 long s = pendingSets[pending];
                 int sum = pendingSums[pending];
                 if (sum + judge.most(rule, side, measure, s) <= k) {
-                    drafted[place] = NONE;
+                    drafted[made] = NONE;
                 } else if (s == 0) {
                     return NONE;
                 } else {
-                    drafted[place] = judge.ranked(side, s).last();
-                    branch(side, measure, s, sum, drafted[place]);
+                    drafted[made] = judge.ranked(side, s).last();
+                    branch(side, measure, s, sum, drafted[made]);
                 }
-                made = place + 1;
+                made++;
+            }
+            if (pending > 0) {
+                return MUCH;
             }
             System.arraycopy(drafted, 0, nodes, 0, made);
             length = made;
@@ -1426,11 +1427,9 @@ public final class FittingRings {
             }
             for (int a = first; a < second && a < MOST_POINTS; a++) {
                 for (int b = a + 1; b <= second && b < MOST_POINTS; b++) {
-                    boolean isNext = b == a + 1 || a == first && b == second;
-                    if (verb == VERB_FLIP) {
-                        net.turnTwo(a, b);
-                    } else if (verb == VERB_ALL || isNext) {
-                        net.tie(a, b, true);
+                    boolean areNext = b == a + 1 || a == first && b == second;
+                    if (verb != VERB_RING || areNext) {
+                        net.tie(a, b, verb != VERB_FLIP || !net.isTied(a, b));
                     }
                 }
             }
