@@ -18,6 +18,9 @@ public final class AgainstNaiveTest {
         for (int run = 0; run < runs && wrong < 20; run++) {
             calls += run(run);
         }
+        for (int seed = 0; seed < 12; seed++) {
+            calls += searches(seed);
+        }
         if (args.length > 2) {
             System.out.println(TALLY);
         }
@@ -72,6 +75,34 @@ public final class AgainstNaiveTest {
         }
         for (int w = 0; w < 4; w++) {
             calls += compare(seed, log, x, y, named("count"), new Object[] {w});
+        }
+        return calls;
+    }
+
+    /** Sets as great as may be searched, somewhere in a net of forty. */
+    private static int searches(int seed) throws Exception {
+        Random r = new Random(seed);
+        FittingRings x = new FittingRings();
+        Naive y = new Naive();
+        StringBuilder log = new StringBuilder();
+        int calls = compare(seed, log, x, y, named("deal"), new Object[] {seed, 40, 1 + seed % 9});
+        long w = (1L << 40) - 1;
+        while (Long.bitCount(w) > 16 - seed % 3) {
+            w &= ~(1L << r.nextInt(40));
+        }
+        for (int side = 0; side < 2; side++) {
+            for (int k = -1; k < 40; k++) {
+                calls += compare(seed, log, x, y, named("grown"), new Object[] {side, w, k});
+            }
+            for (int measure = 0; measure < 2; measure++) {
+                calls += compare(seed, log, x, y, named("greatest"), new Object[] {side, measure, w});
+                for (int what = 0; what < 3; what++) {
+                    calls += compare(seed, log, x, y, named("all"), new Object[] {side, measure, w, what});
+                }
+                for (int more = 0; more < 2; more++) {
+                    calls += compare(seed, log, x, y, named("turning"), new Object[] {side, measure, w, more});
+                }
+            }
         }
         return calls;
     }

@@ -382,6 +382,11 @@ public final class PromisesTest {
         due("17 nothing weighs", y.greatest(0, 1, 15), 1);
         due("17 it can't grow", y.greatest(0, 1, 12), 12);
         due("19 nothing weighs", y.all(0, 1, 15, 2), 3);
+        for (int rule = 0; rule < 5; rule++) {
+            due("15 nothing weighs " + rule, y.bound(rule, 0, 1, 15), 0);
+        }
+        due("14 nothing weighs", y.left(0, 1, 15), 0);
+        due("20 nothing weighs", y.turning(0, 1, 15, 1), NONE);
     }
 
     private static void manyGrown() {
@@ -401,6 +406,8 @@ public final class PromisesTest {
         due("20 seventeen", x.turning(0, 0, 131071, 0), MUCH);
         due("17 seventeen, bad", x.greatest(0, 2, 131071), BAD);
         due("19 seventeen, bad", x.all(0, 0, 131071, 3), BAD);
+        due("20 sixteen", x.turning(1, 0, 65535, 0), NONE);
+        due("20 sixteen, more", x.turning(1, 0, 65535, 1), 1);
         due("17 sixteen of the last", x.greatest(1, 0, 65535L << 24), 65535L << 24);
         due("21 eleven", x.fewest(0, 2047), MUCH);
         due("21 eleven, bad", x.fewest(2, 2047), BAD);
@@ -708,11 +715,13 @@ public final class PromisesTest {
         String[] texts = {"", "   ", ";", "point", "point ", "point loud", "point loud 7;", "point loud 100", "point loud 007",
             "pointloud 7", "point louder 7", "point 7", "point loud shy", "point loud 7 8", "join 0", "join 0 0", "join 0 2", "join 2 0",
             "join 0 1 1", "cut 1 1", "all 1 0", "all 1 1", "all 0 2", "ring 0 0", "ring 1 0", "flip 1 1", "flip 0 1 ;; ",
-            "join 0,1", "Join 0 1", "join 0 1;jo in 0 1", "7", "join join", "point loud 7;join 0 3", "join 0 001"};
+            "join 0,1", "Join 0 1", "join 0 1;jo in 0 1", "7", "join join", "point loud 7;join 0 3", "join 0 001",
+            "joinz 0 1", "ajoin 0 1", "point zloud 1", "join 0 1`", "join 0 1{", "join 0 1/", "join 0 1:"};
         int[] faults = {0, 3, 0, 5, 6, 10, 13, 11, 11,
             0, 6, 6, 11, 13, 6, 7, 7, 5,
             9, 6, 6, 6, 6, 7, 7, 7, 10,
-            6, 0, 9, 0, 5, 20, 7};
+            6, 0, 9, 0, 5, 20, 7,
+            0, 0, 6, 8, 8, 8, 8};
         for (int i = 0; i < texts.length; i++) {
             FittingRings x = plain(2);
             due("31 '" + texts[i] + "'", say(x, texts[i]), -100 - faults[i]);
