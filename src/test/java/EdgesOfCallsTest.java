@@ -263,6 +263,12 @@ public final class EdgesOfCallsTest extends EdgeBench {
         due("18 27 of nine", y.grown(1, 511, -1), 27);
         due("18 the 27th", y.grown(1, 511, 26), 4 | 32 | 256);
         due("18 no 28th", y.grown(1, 511, 27), PLACE);
+        // four threes and a four: as many as sixteen points can have
+        y.mesh(7L << 9, 1);
+        y.mesh(15L << 12, 1);
+        due("18 324 of sixteen", y.grown(1, 65535, -1), 324);
+        due("18 the 324th", y.grown(1, 65535, 323), 4 | 32 | 256 | 2048 | 32768);
+        due("18 no 325th", y.grown(1, 65535, 324), PLACE);
     }
 
     private static void promise19() {
@@ -280,6 +286,11 @@ public final class EdgesOfCallsTest extends EdgeBench {
             refuses("19 BAD: measure", BUSY, BAD, (x, v) -> x.all(0, v, SIX, w), beyond(0, 1));
             refusesLong("19 BAD: set", BUSY, BAD, (x, s) -> x.all(0, 0, s, w), noSets(6));
         }
+        FittingRings y = plain(3);
+        due("19 in any of three", y.all(0, 0, 7, 1), 7);
+        due("19 in any of two, after that", y.all(0, 0, 3, 1), 3);
+        due("19 how many of two, after that", y.all(0, 0, 3, 2), 2);
+        due("19 in each of one, after that", y.all(0, 0, 1, 0), 1);
         refuses("19 BAD: what", BUSY, BAD, (x, v) -> x.all(0, 0, SIX, v), beyond(0, 2));
     }
 
@@ -302,6 +313,10 @@ public final class EdgesOfCallsTest extends EdgeBench {
         due("20 of W alone", y.turning(0, 0, 3, 1), 1);
         due("20 of W alone, a three", y.turning(0, 0, 28, 0), 40 * 2 + 3);
         due("20 nothing is turned", y.count(1), 5);
+        // by side 1 the greatest is 0, 1, 4, 5, and each of the others lacks two joins' turns to come to it
+        due("20 side 1, less", y.turning(1, 0, SIX, 0), 1);
+        due("20 side 1, more", y.turning(1, 0, SIX, 1), NONE);
+        due("20 side 1 of a new object", plain(2).turning(1, 0, 3, 0), 1);
         due("20 sixteen", plain(16).turning(0, 0, 65535, 1), 1);
         due("20 MUCH: seventeen", plain(17).turning(0, 0, 131071, 1), MUCH);
         refuses("20 BAD: side", BUSY, BAD, (x, v) -> x.turning(v, 0, SIX, 0), beyond(0, 1));
@@ -319,6 +334,9 @@ public final class EdgesOfCallsTest extends EdgeBench {
         due("21 ten that don't", y.fewest(0, 1023), 1);
         due("21 the last ten", y.fewest(1, 1023L << 30), 10);
         due("21 ten apart", y.fewest(1, 0x11111L | 0x11111L << 20), 10);
+        due("21 three of forty", y.fewest(1, 7), 3);
+        due("21 of none, after that", y.fewest(1, 0), 0);
+        due("21 two, and the first isn't of them", plain(3).fewest(1, 6), 2);
         keeps("21 MUCH: eleven", FILLED, MUCH, x -> x.fewest(1, 2047));
         keeps("21 MUCH: the last eleven", FILLED, MUCH, x -> x.fewest(0, 2047L << 29));
         keeps("21 MUCH: eleven apart", FILLED, MUCH, x -> x.fewest(0, 0x11111L | 0x11111L << 20 | 2));
@@ -537,6 +555,10 @@ public final class EdgesOfCallsTest extends EdgeBench {
         due("29 two, below 0", two.slip(0, 0), STATE);
         row(two, 0, 0, 2, 2);
         due("29 two, too many", two.slip(0, 1), STATE);
+        row(two, 0, 0, 1, 2);
+        due("29 two, one of them right", two.slip(0, 0), STATE);
+        row(two, 0, 0, 2, 1);
+        due("29 two, the other one right", two.slip(0, 0), STATE);
         FittingRings y = plain(40);
         y.sheet(1, 0, 60);
         y.cell(1, 38, 1);
@@ -660,6 +682,16 @@ public final class EdgesOfCallsTest extends EdgeBench {
             refuses("33 BAD: odds", BUSY, BAD, (x, v) -> x.mean(5, 3, 3, v, p), beyond(0, 10));
         }
         refuses("33 BAD: part", BUSY, BAD, (x, v) -> x.mean(5, 3, 3, 5, v), beyond(0, 1));
+        // nets in thought, and then its own again
+        FittingRings own = plain(3);
+        due("33 ten that all fit", own.mean(5, 1, 10, 10, 0), 10);
+        due("33 its own are fewest", own.fewest(0, 7), 1);
+        own.mean(5, 1, 10, 10, 0);
+        due("33 its own are greatest", own.greatest(0, 0, 7), 1);
+        own.mean(5, 1, 10, 10, 0);
+        due("33 its own are turned", own.turning(0, 0, 7, 1), 1);
+        due("33 side 1 ahead of nets in thought", own.turning(1, 0, 7, 0), 1);
+        due("33 they are by side 0", own.mean(5, 1, 10, 10, 0), 10);
         keeps("33 of forty points too", FILLED, 10, x -> x.mean(5, 12, 10, 10, 0));
         // nets of two: one draw each, one behind the other
         int[] seeds = {0, -1, MIN, MAX, 77};

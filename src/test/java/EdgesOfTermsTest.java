@@ -426,6 +426,8 @@ public final class EdgesOfTermsTest extends EdgeBench {
             due("0 of one", x.order(side, 1L << 39, -1), 0);
             due("of all", x.order(side, FORTY, -1), side == 0 ? 0 : 39);
         }
+        due("0, if S is empty, after a greater one", x.order(1, 0, -1), 0);
+        due("1 of two, after a greater one", x.order(1, 3, -1), 1);
         due("of no points", new FittingRings().order(0, 0, -1), 0);
     }
 
@@ -595,6 +597,9 @@ public final class EdgesOfTermsTest extends EdgeBench {
         x.join(38, 39, 1);
         due("the last two for one", x.better(0, 1, FORTY), 3L << 38);
         due("two of W alone", x.better(0, 1, FORTY >> 1), 1);
+        FittingRings z = plain(3);
+        z.join(0, 1, 1);
+        due("the first two for one", z.better(0, 4, 7), 3);
         // again and again: 0 goes for 1, 2, then 3 comes
         FittingRings y = plain(4);
         y.mesh(14, 1);
@@ -700,8 +705,8 @@ public final class EdgesOfTermsTest extends EdgeBench {
             "join 00 01", "join 10 11", "all 0 09", "all 00 11"},
             new int[] {1, 1, 1, 1, 1, 1, 1, 1, 1, 1});
         textsAnswer(12, new String[] {"point shy 000", "point shy 100", "point shy 999", "point shy 4294967296", "join 000 1",
-            "join 0 001", "all 0 011", "join 4294967296 1", "join 0 18446744073709551617"},
-            new int[] {-110, -110, -110, -110, -105, -107, -106, -105, -107});
+            "join 0 001", "point shy a", "point shy ab", "join a 1", "join 0 a", "all 0 011", "join 4294967296 1", "join 0 18446744073709551617"},
+            new int[] {-110, -110, -110, -110, -105, -107, -110, -110, -105, -107, -106, -105, -107});
     }
 
     private static void pointsThatThereAreThen() {
@@ -727,6 +732,18 @@ public final class EdgesOfTermsTest extends EdgeBench {
         textsAnswer(3, new String[] {"all 1 2", "all 1 1", "all 1 0", "ring 1 2", "ring 1 1", "ring 1 0", "flip 1 2", "flip 1 1",
             "flip 1 0", "all 2 2", "ring 2 2", "flip 2 2", "all 2 3"},
             new int[] {1, -106, -106, 1, -107, -107, 1, -107, -107, -106, -107, -107, -106});
+        String[] verbs = {"join", "all", "ring", "flip"};
+        int[] ofFour = {1, 6, 4, 6};
+        for (int i = 0; i < verbs.length; i++) {
+            FittingRings four = plain(4);
+            due(verbs[i] + " of four", say(four, verbs[i] + " 0 3"), 1);
+            due(verbs[i] + " of four, joined", four.count(1), ofFour[i]);
+            four.mesh(15, 1);
+            due("cut of four", say(four, "cut 0 3"), 1);
+            due("cut of four, joined", four.count(1), 5);
+            due("cut of four, the last one first", say(four, "cut 3 1"), 1);
+            due("cut of four, joined then", four.count(1), 4);
+        }
         FittingRings x = plain(40);
         due("all of forty", say(x, "all 0 39"), 1);
         due("each two", x.count(1), 780);
