@@ -10,6 +10,8 @@ public final class AgainstNaiveTest {
     private static final String[] PIECES = {"point", "loud", "shy", "proud", "meek", "lone", "join", "cut", "all", "ring", "flip",
         ";", ";", " ", "  ", "0", "1", "2", "3", "5", "07", "10", "39", "40", "99", "100", "A", "poin", "joins", "\u00e9"};
     private static final java.util.TreeMap<String, Integer> TALLY = new java.util.TreeMap<>();
+    /** What an object answers behind its 512th call is free; one round makes at most some seventy. */
+    private static final int MOST_CALLS = 430;
     private static int wrong = 0;
 
     public static void main(String[] args) throws Exception {
@@ -50,7 +52,7 @@ public final class AgainstNaiveTest {
         StringBuilder log = new StringBuilder();
         int calls = 0;
         int most = r.nextInt(4) == 0 ? 40 : 3 + r.nextInt(14);
-        for (int i = 0; i < 120; i++) {
+        for (int i = 0; i < 120 && calls < MOST_CALLS; i++) {
             int n = y.n();
             if (n < most && r.nextInt(6) == 0) {
                 calls += compare(seed, log, x, y, named("deal"), new Object[] {r.nextInt(), 1 + r.nextInt(most - n), r.nextInt(11)});

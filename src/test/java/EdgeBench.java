@@ -117,11 +117,11 @@ abstract class EdgeBench {
     /** Each of a first row of points is joined to each of a second; then some that all fit, some joined to none. */
     static FittingRings rows(int first, int second, int mesh, int loners) {
         FittingRings x = plain(first + second + mesh + loners);
-        for (int a = 0; a < first; a++) {
-            for (int b = first; b < first + second; b++) {
-                x.join(a, b, 1);
-            }
-        }
+        long ahead = (1L << first) - 1;
+        long behind = ((1L << second) - 1) << first;
+        x.mesh(ahead | behind, 1);
+        x.mesh(ahead, 0);
+        x.mesh(behind, 0);
         x.mesh(((1L << mesh) - 1) << (first + second), 1);
         return x;
     }

@@ -19,7 +19,7 @@ public final class RoomTest {
         FittingRings x = new FittingRings();
         long made = used() - before;
         before = used();
-        for (int i = 0; i < 8; i++) {
+        for (int i = 0; i < 2; i++) {
             every(x);
         }
         long called = used() - before;
