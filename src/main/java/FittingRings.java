@@ -13,6 +13,8 @@ public final class FittingRings {
     private static final int MOST_NODES = 200;
     /** Each level of a proof has a lesser set and leaves one node to come, so 42 are enough. */
     private static final int MOST_PENDING = 48;
+    /** Forty points come to at most 40 * (2 * 99 + 39) together. */
+    private static final int BEYOND_ALL = 1_000_000;
     private static final int MOST_BYTES = 160;
     private static final int MOST_CELLS = 60;
     private static final int MOST_NETS = 12;
@@ -1171,7 +1173,7 @@ public final class FittingRings {
         int search(Net where, int bySide, int measure, long w) {
             prepare(where, bySide, measure);
             best = 0;
-            goal = Integer.MAX_VALUE;
+            goal = BEYOND_ALL;
             climb(w, 0, net.size - 1);
             return best;
         }

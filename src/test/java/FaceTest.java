@@ -8,7 +8,9 @@ import java.util.ArrayList;
 import java.util.Arrays;
 import java.util.HashSet;
 import java.util.List;
+import java.util.Map;
 import java.util.Set;
+import java.util.TreeMap;
 import java.util.TreeSet;
 import java.util.regex.Matcher;
 import java.util.regex.Pattern;
@@ -167,13 +169,63 @@ public final class FaceTest {
         for (char c : text.toCharArray()) {
             must(c < 127, "plain signs alone, not " + (int) c);
         }
+        library(code);
         lengths(code.split("\n"));
+        depths(code.split("\n"));
+    }
+
+    /** Of Integer, Long and Math functions alone, none of the constants: those are not listed (rule 4). */
+    private static void library(String code) {
+        Set<String> listed = Set.of("Arrays.fill(", "Arrays.copyOf(", "Arrays.copyOfRange(", "System.arraycopy(", "List.of(");
+        Matcher m = Pattern.compile("\\b(Integer|Long|Math|Arrays|System|List|String|StringBuilder|Short|Byte|Character|Boolean|Double)"
+            + "\\.(\\w+)(\\(?)").matcher(code);
+        while (m.find()) {
+            boolean isFunction = List.of("Integer", "Long", "Math").contains(m.group(1)) && m.group(3).equals("(");
+            must(isFunction || listed.contains(m.group()), "of the library only what is listed, not " + m.group());
+        }
+    }
+
+    /** What each method calls, by name; recursion counts once. */
+    private static void depths(String[] lines) {
+        Map<String, Set<String>> calls = new TreeMap<>();
+        for (int i = 0; i < lines.length; i++) {
+            Matcher head = METHOD.matcher(lines[i]);
+            if (head.find()) {
+                Set<String> called = calls.computeIfAbsent(head.group(2), name -> new TreeSet<>());
+                for (int j = i + 1; j < lines.length && !lines[j].equals(head.group(1) + "}"); j++) {
+                    Matcher call = Pattern.compile("\\b(?!(?:if|for|while|switch|return)\\b)(\\w+)\\(").matcher(lines[j]);
+                    while (call.find()) {
+                        called.add(call.group(1));
+                    }
+                }
+            }
+        }
+        must(calls.size() > 43, "more methods than the face has were found");
+        for (String name : calls.keySet()) {
+            int deep = depth(calls, name, List.of());
+            must(deep <= 8, "calls from " + name + " go " + deep + " deep");
+        }
+    }
+
+    private static int depth(Map<String, Set<String>> calls, String name, List<String> open) {
+        List<String> now = new ArrayList<>(open);
+        now.add(name);
+        int most = 0;
+        for (String next : calls.getOrDefault(name, Set.of())) {
+            if (!now.contains(next)) {
+                most = Math.max(most, depth(calls, next, now));
+            }
+        }
+        return most + 1;
     }
 
     /** A method begins with a line that ends in "{" at 4 or 8 blanks and ends with "}" at the same. */
+    private static final Pattern METHOD =
+        Pattern.compile("^( {4}| {8})(?!\\s)(?!.*\\b(?:class|new|if|for|while|switch|else)\\b).*?(\\w+)\\([^()]*\\) \\{$");
+
     private static void lengths(String[] lines) {
         for (int i = 0; i < lines.length; i++) {
-            Matcher m = Pattern.compile("^( {4}| {8})(?!\\s)(?!.*\\b(class|new|if|for|while|switch|else)\\b).*\\) \\{$").matcher(lines[i]);
+            Matcher m = METHOD.matcher(lines[i]);
             if (m.find()) {
                 int end = i;
                 while (end < lines.length && !lines[end].equals(m.group(1) + "}")) {
